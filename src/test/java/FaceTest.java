@@ -10,7 +10,6 @@ import java.util.Set;
 import java.util.TreeSet;
 import java.util.regex.Matcher;
 import java.util.regex.Pattern;
-import support.Check;
 
 /** The class has the document's face and no other, and its text keeps to LANGUAGE.md. */
 public final class FaceTest {

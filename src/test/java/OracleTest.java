@@ -1,6 +1,3 @@
-import support.Check;
-import support.Oracle;
-
 /** Puts every question about many graphs to the program and to the oracle. */
 public final class OracleTest {
     private static final int RANDOM_GRAPHS = 200;

@@ -1,5 +1,3 @@
-package support;
-
 import java.util.HashSet;
 import java.util.Set;
 

@@ -1,5 +1,3 @@
-package support;
-
 import java.util.ArrayList;
 import java.util.List;
 
