@@ -1,116 +1,161 @@
 import java.io.IOException;
+import java.lang.reflect.Constructor;
 import java.lang.reflect.Field;
 import java.lang.reflect.Method;
 import java.lang.reflect.Modifier;
 import java.nio.file.Files;
 import java.nio.file.Path;
-import java.util.Arrays;
-import java.util.HashSet;
+import java.util.ArrayList;
+import java.util.List;
 import java.util.Set;
 import java.util.TreeSet;
 import java.util.regex.Matcher;
 import java.util.regex.Pattern;
 
-/** The class has the document's face and no other, and its text keeps to LANGUAGE.md. */
+/** The public face is the one that the document's code block gives, and no other. */
 public final class FaceTest {
-    private static final String SOURCE = "src/main/java/GraphEngines.java";
+    private static final Path DOCUMENT = Path.of("../shared/DOC.md");
 
-    private static final String[] FACE = {
-        "boolean edge(int, int, int)", "int colours(int)", "int chromatic()",
-        "int coefficient(int)", "int tours()", "int tour()", "int trail(int, int)",
-        "int longest(int)", "int link(int)", "int cut()", "int matchings(int)",
-        "int dominators(int)", "int width()", "int spread()", "int layout()", "int loose()"};
-
-    private static final String FORBIDDEN_WORDS =
-            "import|package|throw|throws|try|catch|finally|synchronized|assert|instanceof|null"
-            + "|float|double|String|Math|Integer|System|Arrays|Object|interface|enum|record|this"
-            + "|native|protected|volatile";
+    /** The code block as this test knows it; a document with another one makes the test fail. */
+    private static final String FACE = """
+            public final class GraphEngines {
+                public static final int BAD = -1;
+                public static final int NONE = -2;
+                public GraphEngines();
+                public boolean edge(int a, int b, int w);
+                public int colours(int k);
+                public int chromatic();
+                public int coefficient(int i);
+                public int tours();
+                public int tour();
+                public int trail(int a, int b);
+                public int longest(int a);
+                public int link(int set);
+                public int cut();
+                public int matchings(int k);
+                public int dominators(int k);
+                public int width();
+                public int spread();
+                public int layout();
+                public int loose();
+            }
+            """;
 
     private static final Check check = new Check();
+    private static String document;
 
     public static void main(String[] args) throws IOException {
-        classShape();
-        methods();
-        fields();
-        text(Files.readString(Path.of(SOURCE)));
+        document = Files.readString(DOCUMENT);
+        check.run("face: the document's code block", FaceTest::codeBlock);
+        check.run("face: the class", FaceTest::theClass);
+        check.run("face: constants, constructor and methods", FaceTest::members);
+        check.run("face: nothing else is visible", FaceTest::nothingElse);
+        check.run("face: the constants are compile-time constants", FaceTest::constants);
+        check.run("face: parameter names", FaceTest::parameterNames);
         check.end();
     }
 
-    private static void classShape() {
+    private static void codeBlock() {
+        Matcher block = Pattern.compile("(?s)```java\n(.*?)```").matcher(document);
+        check.due("there is a code block", block.find(), true);
+        check.due("it is the one that is tested here", block.group(1).equals(FACE), true);
+    }
+
+    private static void theClass() {
         Class<?> c = GraphEngines.class;
-        check.due("public final class", c.getModifiers(), Modifier.PUBLIC | Modifier.FINAL);
-        check.due("nested classes", c.getDeclaredClasses().length, 0);
-        check.due("interfaces", c.getInterfaces().length, 0);
+        check.due("its name", c.getName().equals("GraphEngines"), true);
+        check.due("public final", c.getModifiers(), Modifier.PUBLIC | Modifier.FINAL);
         check.due("from Object", c.getSuperclass() == Object.class, true);
-        check.due("constructors", c.getDeclaredConstructors().length, 1);
-        check.due("its modifiers", c.getDeclaredConstructors()[0].getModifiers(), Modifier.PUBLIC);
-        check.due("its parameters", c.getDeclaredConstructors()[0].getParameterCount(), 0);
+        check.due("interfaces", c.getInterfaces().length, 0);
+        check.due("type parameters", c.getTypeParameters().length, 0);
     }
 
-    private static void methods() {
+    /** The members of the code block, without the names of the parameters. */
+    private static Set<String> promised() {
+        Set<String> lines = new TreeSet<>();
+        for (String line : FACE.split("\n")) {
+            if (line.startsWith("    ")) {
+                lines.add(line.strip().replaceAll("int \\w+(?=[,)])", "int"));
+            }
+        }
+        return lines;
+    }
+
+    private static void members() {
         Set<String> found = new TreeSet<>();
-        Set<String> publicNames = new HashSet<>();
-        Set<String> privateNames = new HashSet<>();
+        for (Field f : GraphEngines.class.getFields()) {
+            found.add(line(f));
+        }
+        for (Constructor<?> c : GraphEngines.class.getConstructors()) {
+            found.add(line(c.getModifiers(), c.getName(), c.getParameterTypes()));
+        }
         for (Method m : GraphEngines.class.getDeclaredMethods()) {
-            check.due(m + " has few parameters", m.getParameterCount() <= 7, true);
             if (Modifier.isPublic(m.getModifiers())) {
-                check.due(m + " is only public", m.getModifiers(), Modifier.PUBLIC);
-                found.add(signature(m));
-                publicNames.add(m.getName());
-            } else {
-                check.due(m + " is private", Modifier.isPrivate(m.getModifiers()), true);
-                check.due(m + " answers no array", m.getReturnType().isArray(), false);
-                privateNames.add(m.getName());
+                String name = m.getReturnType().getName() + " " + m.getName();
+                found.add(line(m.getModifiers(), name, m.getParameterTypes()));
             }
         }
-        check.due("the face " + found, found.equals(new TreeSet<>(Arrays.asList(FACE))), true);
-        privateNames.retainAll(publicNames);
-        check.due("private names that are public too " + privateNames, privateNames.size(), 0);
+        Set<String> missing = promised();
+        missing.removeAll(found);
+        check.due("promised and not there: " + missing, missing.size(), 0);
+        found.removeAll(promised());
+        check.due("there and not promised: " + found, found.size(), 0);
     }
 
-    private static String signature(Method m) {
-        StringBuilder types = new StringBuilder();
-        for (Class<?> type : m.getParameterTypes()) {
-            types.append(types.length() == 0 ? "" : ", ").append(type.getName());
+    private static String line(Field f) {
+        try {
+            String name = f.getType().getName() + " " + f.getName();
+            return Modifier.toString(f.getModifiers()) + " " + name + " = " + f.get(null) + ";";
+        } catch (IllegalAccessException | NullPointerException notStatic) {
+            return f.toString();
         }
-        return m.getReturnType().getName() + " " + m.getName() + "(" + types + ")";
     }
 
-    private static void fields() {
-        Set<String> publicNames = new TreeSet<>();
-        int kept = 0;
-        for (Field f : GraphEngines.class.getDeclaredFields()) {
-            int modifiers = f.getModifiers();
-            Class<?> type = f.getType();
-            if (Modifier.isStatic(modifiers)) {
-                check.due(f + " is final", Modifier.isFinal(modifiers), true);
-                check.due(f + " is a number", type == int.class || type == long.class, true);
-            } else {
-                kept++;
-                Class<?> part = type.isArray() ? type.getComponentType() : type;
-                check.due(f + " is simple", part.isPrimitive(), true);
+    private static String line(int modifiers, String name, Class<?>[] types) {
+        List<String> names = new ArrayList<>();
+        for (Class<?> type : types) {
+            names.add(type.getName());
+        }
+        return Modifier.toString(modifiers) + " " + name + "(" + String.join(", ", names) + ");";
+    }
+
+    /** Beside public members a class may have protected and package-visible ones. */
+    private static void nothingElse() {
+        Class<?> c = GraphEngines.class;
+        check.due("nested classes", c.getDeclaredClasses().length, 0);
+        check.due("constructors", c.getDeclaredConstructors().length, 1);
+        for (Field f : c.getDeclaredFields()) {
+            check.due(f + " is public or private", isPublicOrPrivate(f.getModifiers()), true);
+        }
+        for (Method m : c.getDeclaredMethods()) {
+            check.due(m + " is public or private", isPublicOrPrivate(m.getModifiers()), true);
+        }
+    }
+
+    private static boolean isPublicOrPrivate(int modifiers) {
+        return Modifier.isPublic(modifiers) || Modifier.isPrivate(modifiers);
+    }
+
+    /** Only such constants can stand behind case: else this does not compile. */
+    private static void constants() {
+        for (int answer = -3; answer <= 0; answer++) {
+            int name = switch (answer) {
+                case GraphEngines.BAD -> 'B';
+                case GraphEngines.NONE -> 'N';
+                default -> '-';
+            };
+            check.due("the name of " + answer, name, "-NB-".charAt(answer + 3));
+        }
+    }
+
+    /** A compiled class does not tell them, so they are looked for in the text. */
+    private static void parameterNames() {
+        String source = ProgramText.read();
+        for (String line : FACE.split("\n")) {
+            if (line.endsWith(");")) {
+                String head = line.substring(0, line.length() - 1) + " {\n";
+                check.due("the text has " + line.strip(), source.contains(head), true);
             }
-            if (Modifier.isPublic(modifiers)) {
-                publicNames.add(f.getName());
-            } else {
-                check.due(f + " is private", Modifier.isPrivate(modifiers), true);
-            }
-        }
-        check.due("constants " + publicNames, publicNames.equals(Set.of("BAD", "NONE")), true);
-        check.due("at most forty fields", kept <= 40, true);
-    }
-
-    private static void text(String source) {
-        String code = source.replaceAll("(?s)/\\*.*?\\*/", "").replaceAll("//[^\n]*", "");
-        Matcher word = Pattern.compile("\\b(" + FORBIDDEN_WORDS + ")\\b|->|::|[\"'@]").matcher(code);
-        while (word.find()) {
-            check.due("the text has " + word.group(), 1, 0);
-        }
-        Matcher made = Pattern.compile("(?m)^.*\\bnew\\b.*$").matcher(code);
-        while (made.find()) {
-            String line = made.group();
-            boolean field = line.matches("    private final int\\[\\] \\w+ = new int\\[[A-Z_]+\\];");
-            check.due("an array made in a field's initialiser:" + line, field, true);
         }
     }
 }
